@@ -150,6 +150,13 @@ public final class PromiseTests {
         due("second aunt", aunts.about(1, 3), 5);
         due("third aunt: not on the same day", aunts.about(2, 3), 6);
         due("whom she sees", aunts.about(3, 3), 7);
+        SurpriseSaturday both = ofKinds(1, 1, 0, 0);
+        both.sees(0, 2, 1, true);
+        both.sees(1, 3, 1, true);
+        both.tell(0, 1);
+        both.tell(1, 1);
+        due("told by the one aunt", both.about(2, 3), 2);
+        due("told by the other aunt on that day", both.about(3, 3), 2);
     }
 
     private static void promise4As() {
@@ -370,6 +377,8 @@ public final class PromiseTests {
         dueFraction("whose 2", x.whose(2, 0), x.whose(2, 1), 0, 1);
         x.tell(1, 0);
         dueFraction("alone", x.whose(0, 0), x.whose(0, 1), 1, 1);
+        read(x, "011");
+        dueFraction("one way of ten", x.whose(0, 0), x.whose(0, 1), 1, 1);
         due("UNKNOWN", x.whose(5, 0), UNKNOWN);
         due("UNKNOWN ahead of OUTSIDE", x.whose(-1, 5), UNKNOWN);
         due("OUTSIDE", x.whose(0, -1), OUTSIDE);
@@ -392,6 +401,7 @@ public final class PromiseTests {
         x.sees(1, 2, 4, true);
         due("by an aunt, in time", x.right(), 1);
         due("none needed", ofKinds(0, 1, 3).right(), 1);
+        due("the first is needed", ofKinds(2).right(), 0);
     }
 
     private static void promise15Best() {
@@ -507,6 +517,9 @@ public final class PromiseTests {
         due("the same", x.clash(1, 1, true), UNKNOWN);
         due("UNKNOWN a", x.clash(3, 0, true), UNKNOWN);
         due("UNKNOWN b", x.clash(0, -1, true), UNKNOWN);
+        x.clash(0, 2, true);
+        due("from the first", x.clash(0, 2, true), 1);
+        due("from the second", x.clash(2, 0, true), 1);
     }
 
     private static void dueCover(String call, SurpriseSaturday x, int many, int bits) {
@@ -538,6 +551,14 @@ public final class PromiseTests {
         dueCover("three go together", x, 3, 7);
         x.clash(0, 2, true);
         dueCover("none goes together", x, NONE, NONE);
+        SurpriseSaturday all = ofKinds(0, 0, 0, 0, 0, 0, 0, 0);
+        for (int i = 0; i < 8; i++) {
+            all.story(1 << i);
+            all.tell(i, 1);
+        }
+        dueCover("all eight", all, 8, 255);
+        all.tell(7, 0);
+        dueCover("seven", all, 7, 127);
         due("OUTSIDE 2", x.cover(2), OUTSIDE);
         due("OUTSIDE -1", x.cover(-1), OUTSIDE);
     }
@@ -604,6 +625,14 @@ public final class PromiseTests {
             sure.look(i, 1);
         }
         dueBelief("eight", sure, 0, 43046721, 43046722);
+        SurpriseSaturday four = new SurpriseSaturday();
+        int[][] signs = {{8, 2, 1}, {3, 4, 1}, {6, 1, 2}, {7, 5, 2}};
+        for (int i = 0; i < 4; i++) {
+            four.sign(signs[i][0], signs[i][1]);
+            four.look(i, signs[i][2]);
+        }
+        // 8 * 3 * 4 * 3 to 2 * 4 * 9 * 5
+        dueBelief("two seen, two not", four, 0, 4, 9);
     }
 
     private static void promise24Parting() {
@@ -692,6 +721,12 @@ public final class PromiseTests {
             due("it ends by the first " + seed, x.weeks(seed, 2), slips ? first : next(first));
         }
         due("the greatest seed", x.weeks(HIGH, 2) >= 0 ? 1 : 0, 1);
+        SurpriseSaturday second = ofKinds(0, 0);
+        read(second, "119");
+        second.tell(1, 1);
+        // 12345 is below 65536: the draw by seed 0 is 0
+        due("the first meeting", second.weeks(0, 0), 0);
+        due("is of guest 1", second.weeks(0, 1), 1);
         due("seed -1", x.weeks(-1, 0), OUTSIDE);
         due("seed low", x.weeks(LOW, 2), OUTSIDE);
         due("what 3", x.weeks(0, 3), OUTSIDE);
@@ -774,16 +809,17 @@ public final class PromiseTests {
         read(x, "125,018");
         x.sees(0, 1, 1, true);
         x.tell(0, 1);
+        x.story(0);
         x.story(3);
         x.sign(8, 2);
         x.sign(3, 4);
         x.look(0, 1);
         x.best(0);
         x.letters(packed("7~"));
-        due("all", x.digest(), mixed(1, 0, 1, 1, 8, 4, 3, 0, 2, 1, 0, 1, 8, 8, 1, 2, 5, 2, 21, 25, 1, 0, 1, 1,
-            8, 2, 1, 3, 4, 0, 4, 5, 1, '7', '~', 2, 2, 1, 2, 2, 2, 1, 1));
-        due("it changes nothing", x.digest(), mixed(1, 0, 1, 1, 8, 4, 3, 0, 2, 1, 0, 1, 8, 8, 1, 2, 5, 2, 21, 25, 1, 0,
-            1, 1, 8, 2, 1, 3, 4, 0, 4, 5, 1, '7', '~', 2, 2, 1, 2, 2, 2, 1, 1));
+        long all = mixed(1, 0, 1, 1, 8, 4, 3, 0, 2, 1, 0, 1, 8, 8, 1, 2, 5, 2, 21, 25, 1, 0, 1, 2,
+            8, 2, 1, 3, 4, 0, 4, 5, 1, '7', '~', 2, 2, 2, 2, 2, 2, 1, 1);
+        due("all", x.digest(), all);
+        due("it changes nothing", x.digest(), all);
     }
 
     public static void main(String[] args) {
