@@ -137,7 +137,10 @@ public final class SurpriseSaturday {
         }
         meetings.clear();
         for (int place = 0; place < page.size(); place += Page.STEP) {
-            meetings.add(page.digitAt(place), page.digitAt(place + 1), page.digitAt(place + 2));
+            int guest = page.digitAt(place);
+            int tenths = page.digitAt(place + 2);
+            int slip = guests.isSoftSpoken(guest) ? tenths / 2 : tenths;
+            meetings.add(guest, page.digitAt(place + 1), tenths, slip);
         }
         page.clear();
         listsRead++;
@@ -156,7 +159,7 @@ public final class SurpriseSaturday {
             case 2:
                 return meetings.tenthsOf(meeting);
             case 3:
-                return meetings.slipOf(meeting, guests, word);
+                return meetings.slipOf(meeting, word);
             default:
                 return OUTSIDE;
         }
@@ -168,7 +171,7 @@ public final class SurpriseSaturday {
         if (!isPart(part)) {
             return OUTSIDE;
         }
-        return knownPart(meetings.silentWays(guests, word), part);
+        return knownPart(meetings.silentWays(word), part);
     }
 
     public long whose(int guest, int part) {
@@ -178,11 +181,11 @@ public final class SurpriseSaturday {
         if (!isPart(part)) {
             return OUTSIDE;
         }
-        long ways = meetings.allWays() - meetings.silentWays(guests, word);
+        long ways = meetings.allWays() - meetings.silentWays(word);
         if (ways == 0) {
             return NONE;
         }
-        return lowest(meetings.firstSlipWays(guest, guests, word), ways, part);
+        return lowest(meetings.firstSlipWays(guest, word), ways, part);
     }
 
     public int right() {
@@ -212,7 +215,7 @@ public final class SurpriseSaturday {
     }
 
     public int hole() {
-        long most = meetings.silentWays(guests, word);
+        long most = meetings.silentWays(word);
         int found = NONE;
         for (int guest = 0; guest < guests.size(); guest++) {
             if (guests.toldOf(guest) != 0) {
@@ -330,7 +333,7 @@ public final class SurpriseSaturday {
             // who KNOWS draws even where half of its TENTHS is none
             if (meetings.isOfKnowing(at, word)) {
                 now = nextSeed(now);
-                if (drawOf(now) < meetings.slipOf(at, guests, word)) {
+                if (drawOf(now) < meetings.slipOf(at, word)) {
                     slipped = at;
                 }
             }
@@ -469,7 +472,7 @@ public final class SurpriseSaturday {
 
     private long planWays() {
         planned.follow(guests, plan);
-        return meetings.silentWays(guests, planned);
+        return meetings.silentWays(planned);
     }
 
     private long knownPart(long silentWays, int part) {
@@ -635,10 +638,14 @@ public final class SurpriseSaturday {
         }
 
         int seenByAny(int tellers, int day) {
+            if (!isDay(day)) {
+                return 0;
+            }
+            int row = (day - 1) * MOST;
             int all = 0;
             for (int guest = 0; guest < size; guest++) {
                 if (bit(tellers, guest) == 1) {
-                    all |= seenBy(guest, day);
+                    all |= seen[row + guest];
                 }
             }
             return all;
@@ -668,7 +675,7 @@ public final class SurpriseSaturday {
         }
 
         boolean knows(int guest, int day) {
-            return bit(on(day), guest) == 1;
+            return day >= 1 && day <= SATURDAY && (knowing[day] >> guest & 1) == 1;
         }
 
         int since(int guest) {
@@ -779,6 +786,8 @@ public final class SurpriseSaturday {
         private final int[] guestAt = new int[MOST];
         private final int[] dayAt = new int[MOST];
         private final int[] tenthsAt = new int[MOST];
+        /** TENTHS by which a word SLIPS of who KNOWS; no GUEST ever changes its KIND. */
+        private final int[] slipAt = new int[MOST];
         private int size = 0;
 
         int size() {
@@ -793,7 +802,7 @@ public final class SurpriseSaturday {
             size = 0;
         }
 
-        void add(int guest, int day, int tenths) {
+        void add(int guest, int day, int tenths, int slip) {
             if (size >= MOST) {
                 return;
             }
@@ -802,11 +811,13 @@ public final class SurpriseSaturday {
                 guestAt[at] = guestAt[at - 1];
                 dayAt[at] = dayAt[at - 1];
                 tenthsAt[at] = tenthsAt[at - 1];
+                slipAt[at] = slipAt[at - 1];
                 at--;
             }
             guestAt[at] = guest;
             dayAt[at] = day;
             tenthsAt[at] = tenths;
+            slipAt[at] = slip;
             size++;
         }
 
@@ -826,31 +837,30 @@ public final class SurpriseSaturday {
             return has(meeting) && word.knows(guestAt[meeting], dayAt[meeting]);
         }
 
-        int slipOf(int meeting, Guests guests, Word word) {
-            if (!isOfKnowing(meeting, word)) {
+        int slipOf(int meeting, Word word) {
+            if (!has(meeting) || !word.knows(guestAt[meeting], dayAt[meeting])) {
                 return 0;
             }
-            int tenths = tenthsOf(meeting);
-            return guests.isSoftSpoken(guestOf(meeting)) ? tenths / 2 : tenths;
+            return slipAt[meeting];
         }
 
         long allWays() {
             return power(10, size);
         }
 
-        long silentWays(Guests guests, Word word) {
+        long silentWays(Word word) {
             long ways = 1;
             for (int at = 0; at < size; at++) {
-                ways *= 10 - slipOf(at, guests, word);
+                ways *= 10 - slipOf(at, word);
             }
             return ways;
         }
 
-        long firstSlipWays(int guest, Guests guests, Word word) {
+        long firstSlipWays(int guest, Word word) {
             long silent = 1;
             long slipped = 0;
             for (int at = 0; at < size; at++) {
-                int slip = slipOf(at, guests, word);
+                int slip = slipOf(at, word);
                 slipped *= 10;
                 if (guestAt[at] == guest) {
                     slipped += silent * slip;
