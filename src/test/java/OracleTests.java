@@ -13,7 +13,10 @@ import java.util.regex.Pattern;
  */
 public final class OracleTests {
     private static final int RUNS = 400;
+    /** What an object answers behind these is free. */
     private static final int CALLS = 512;
+    /** A LIST that is written and read, and the digest at the end. */
+    private static final int MOST_AT_ONCE = 12;
 
     private static int wrong = 0;
 
@@ -577,6 +580,7 @@ public final class OracleTests {
         final Random random;
         final int number;
         final int wild;
+        int calls = 0;
 
         Run(int number) {
             this.number = number;
@@ -596,7 +600,9 @@ public final class OracleTests {
             return from(0, m.guests.size() - 1);
         }
 
+        /** Each is one call of the object. */
         void due(String call, long got, long want, Object... args) {
+            calls++;
             if (got != want && wrong++ < 20) {
                 System.out.println("run " + number + ": " + call + Arrays.toString(args) + " answered " + got + ", due is " + want);
             }
@@ -746,7 +752,7 @@ public final class OracleTests {
             for (int i = 0; i < early; i++) {
                 anyGuest();
             }
-            for (int i = 0; i < CALLS - 60; i++) {
+            for (int i = 0; i < CALLS && calls < CALLS - MOST_AT_ONCE; i++) {
                 if (random.nextInt(5) < 2) {
                     change();
                 } else {
