@@ -1023,13 +1023,13 @@ public final class SurpriseSaturday {
         int bestParting() {
             long is = oddsIfThereIsOne(0);
             long isNot = oddsIfThereIsNone();
-            long least = Long.MAX_VALUE;
+            long least = 0;
             int found = NONE;
             for (int at = 0; at < size; at++) {
                 if (how[at] == NOT_LOOKED_FOR) {
                     long lesser = Math.min(is * with[at], isNot * without[at])
                             + Math.min(is * (10 - with[at]), isNot * (10 - without[at]));
-                    if (lesser < least) {
+                    if (found == NONE || lesser < least) {
                         least = lesser;
                         found = at;
                     }

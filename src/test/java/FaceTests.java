@@ -1,4 +1,3 @@
-import java.io.IOException;
 import java.lang.reflect.Constructor;
 import java.lang.reflect.Field;
 import java.lang.reflect.Method;
@@ -8,6 +7,7 @@ import java.nio.file.Path;
 import java.util.Arrays;
 import java.util.Set;
 import java.util.TreeSet;
+import java.util.regex.Matcher;
 import java.util.regex.Pattern;
 import java.util.stream.Collectors;
 
@@ -22,6 +22,11 @@ public final class FaceTests {
         + " long quiet(int, int, int, int); int weeks(int, int); int image(); int restore(); int count(int);"
         + " long digest()";
     private static final String CONSTANTS = "FULL=-104, NONE=-1, OUTSIDE=-102, STATE=-103, UNKNOWN=-101";
+
+    /** Rule 4, as far as the class has a use for it: functions alone, no constants of the library. */
+    private static final Set<String> LIBRARY = Set.of("Integer.bitCount(", "Math.abs(", "Math.min(", "Math.max(",
+        "System.arraycopy(", "Arrays.fill(", "Arrays.copyOf(", "Arrays.copyOfRange(");
+    private static final int MOST_LINES = 60;
 
     private static int wrong = 0;
 
@@ -67,6 +72,19 @@ public final class FaceTests {
             }
         }
         inside(c, names);
+        staticFields(c);
+        for (Class<?> k : c.getDeclaredClasses()) {
+            staticFields(k);
+        }
+    }
+
+    /** Rule 5. */
+    private static void staticFields(Class<?> k) {
+        for (Field f : k.getDeclaredFields()) {
+            if (Modifier.isStatic(f.getModifiers())) {
+                due(f + " is final", Modifier.isFinal(f.getModifiers()), true);
+            }
+        }
     }
 
     private static void inside(Class<?> c, Set<String> names) {
@@ -82,9 +100,7 @@ public final class FaceTests {
     }
 
     /** Rules 2, 6, 12: words that the program does not use, and rows made with the object alone. */
-    private static void words() throws IOException {
-        String text = Files.readString(SOURCE);
-        String code = text.replaceAll("(?s)/\\*.*?\\*/", "").replaceAll("//[^\n]*", "");
+    private static void words(String text, String code) {
         String[] banned = {"throw", "throws", "try", "catch", "synchronized", "assert", "package", "protected",
             "var", "yield", "double", "float", "\\w+Exact\\(", "->", "::", "String", "System\\.(?!arraycopy)"};
         for (String word : banned) {
@@ -100,9 +116,38 @@ public final class FaceTests {
         }
     }
 
+    /** Rule 4. */
+    private static void library(String code) {
+        Matcher used = Pattern.compile("\\b(?:Integer|Long|Short|Byte|Character|Boolean|Math|System|Arrays)\\.\\w+\\(?").matcher(code);
+        while (used.find()) {
+            due(used.group() + " is in the library that is left", LIBRARY.contains(used.group()), true);
+        }
+        Matcher imported = Pattern.compile("\\bimport ([^;]*);").matcher(code);
+        while (imported.find()) {
+            due("what is imported", imported.group(1), "java.util.Arrays");
+        }
+    }
+
+    /** Rule 11: from the line that opens a method to the one that closes it, by their indents. */
+    private static void lengths(String code) {
+        Matcher method = Pattern.compile("(?m)^( +)[\\w\\[\\] ]+\\([^;{}]*\\) \\{$").matcher(code);
+        int methods = 0;
+        while (method.find()) {
+            int end = code.indexOf("\n" + method.group(1) + "}\n", method.end());
+            int lines = (int) code.substring(method.start(), Math.max(end, method.end())).lines().count() + 1;
+            due(method.group().trim() + " is short", lines <= MOST_LINES, true);
+            methods++;
+        }
+        due("methods were found", methods > 29, true);
+    }
+
     public static void main(String[] args) throws Exception {
+        String text = Files.readString(SOURCE);
+        String code = text.replaceAll("(?s)/\\*.*?\\*/", "").replaceAll("//[^\n]*", "");
         face();
-        words();
+        words(text, code);
+        library(code);
+        lengths(code);
         System.out.println(wrong == 0 ? "all is as due" : wrong + " things are not as due");
         if (wrong != 0) {
             System.exit(1);

@@ -48,6 +48,16 @@ public final class StoryEdgeTests extends Edges {
         dueCover("of the first guest", x, 1, 1);
     }
 
+    static void promise18_guestsWhoNeverComeAreNotUnknown() {
+        SurpriseSaturday x = tell(party("G A"), "11");
+        due("story of the ninth", x.story(256), 0);
+        due("story of the third and the ninth", x.story(260), 1);
+        dueCover("by those alone", x, NONE, NONE);
+        due("story of the first and others", x.story(509), 2);
+        due("story of the second and others", x.story(510), 3);
+        dueCover("by each its own", x, 2, 12);
+    }
+
     static void promise18_aRefusedOneChangesNothing() {
         refused("story(512)", Edges::middling, x -> x.story(512), OUTSIDE);
         refused("story(-1)", Edges::middling, x -> x.story(-1), OUTSIDE);
